@@ -22,6 +22,26 @@ public final class BestWidthTest {
         due(y, 8, 1);
         Due.is("states", y.count(4), 4);
 
+        // Names of 6 take two lines by the width 8, one by the width 9.
+        BallotPapers six = new BallotPapers();
+        six.set(0, 1);
+        six.set(1, 16);
+        Due.addContest(six, 8, 1, 6, 6, 6, 6, 6, 6, 6, 6);
+        due(six, 9, 1);
+
+        // By the width 8 the version 1 has one column and the version 0, for its folds, two.
+        BallotPapers folded = new BallotPapers();
+        folded.set(0, 1);
+        folded.set(1, 16);
+        folded.set(4, 5);
+        folded.set(5, 2);
+        Due.addContest(folded, 8, 1, 20, 20, 20, 1, 1);
+        folded.way(0, 2);
+        due(folded, 10, 1);
+        folded.set(2, 8);
+        Due.is("pages of the version 0", folded.paper(0, 0), 2);
+        Due.is("pages of the version 1", folded.paper(1, 0), 1);
+
         // The order of the version 0 decides, whichever versions there are.
         BallotPapers z = new BallotPapers();
         z.set(0, 1);

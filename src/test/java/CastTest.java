@@ -69,6 +69,10 @@ public final class CastTest {
         Due.is("blank", x.contestOf(1, 6), 1);
         Due.is("a contest without names is not blank", x.contestOf(2, 6), 0);
         Due.is("ballots", x.count(3), 4);
+
+        BallotPapers one = Due.withNames(5, 1);
+        cast(one, "0:");
+        Due.is("a contest with one name is blank", one.contestOf(0, 6), 1);
     }
 
     private static void faults() {

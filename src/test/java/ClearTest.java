@@ -29,6 +29,13 @@ public final class ClearTest {
         Due.is("ballots", x.count(3), 3);
         Due.is("votes of the name", x.nameOf(0, 0, 1), 2);
         Due.is("spoilt", x.contestOf(1, 5), 2);
+
+        BallotPapers y = Due.withNames(5, 1, 2);
+        Due.written(y, "0:a0,a1");
+        y.cast();
+        Due.is("spoilt in the contest 0", y.contestOf(0, 5), 1);
+        Due.is("clear()", y.clear(), 1);
+        Due.is("spoilt in the contest 0", y.contestOf(0, 5), 0);
         Due.end();
     }
 }

@@ -65,6 +65,14 @@ public final class NameOfTest {
         vote(x, "0:a1,a2");
         seated(x, 0, 1, 1, 0);
 
+        // A name of another contest with more votes takes no seat here.
+        Due.addContest(x, 5, 1);
+        Due.is("a contest without names", x.nameOf(1, 0, 3), BallotPapers.INVALID_ARGUMENT);
+        BallotPapers next = Due.withNames(5, 1, 1);
+        Due.addContest(next, 5, 1, 1);
+        vote(next, "0:b0");
+        seated(next, 1, 0);
+
         BallotPapers few = new BallotPapers();
         Due.addContest(few, 5, 3, 1, 1);
         seated(few, 1, 1);

@@ -18,6 +18,7 @@ public final class SetTest {
         int[] wrongWhat = {-1, 6, 10, Integer.MIN_VALUE, Integer.MAX_VALUE};
         for (int what : wrongWhat) {
             Due.is("set(" + what + ", 1)", x.set(what, 1), BallotPapers.INVALID_ARGUMENT);
+            Due.is("set(" + what + ", 0)", x.set(what, 0), BallotPapers.INVALID_ARGUMENT);
         }
         Due.is("set(4, 1)", x.set(4, 1), BallotPapers.INVALID_ARGUMENT);
         Due.is("set(4, 2)", x.set(4, 2), BallotPapers.INVALID_ARGUMENT);
