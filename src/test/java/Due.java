@@ -1,7 +1,10 @@
+import java.util.List;
+
 /** Compares answers with those that are due, and ends a test. */
 final class Due {
     private static int compared = 0;
     private static int wrong = 0;
+    private static String about = "";
 
     private Due() {
     }
@@ -9,9 +12,39 @@ final class Due {
     static void is(String call, long got, long want) {
         compared++;
         if (got != want) {
-            wrong++;
-            System.out.println(call + " answered " + got + ", due is " + want);
+            fails(call + " answered " + got + ", due is " + want);
         }
+    }
+
+    /** Two lists of answers, "call = answer" each; the first one that differs is told. */
+    static void same(String what, List<String> got, List<String> want) {
+        compared++;
+        for (int i = 0; i < Math.max(got.size(), want.size()); i++) {
+            String one = i < got.size() ? got.get(i) : "nothing more";
+            String other = i < want.size() ? want.get(i) : "nothing more";
+            if (!one.equals(other)) {
+                fails(what + ": " + one + ", due is " + other);
+                return;
+            }
+        }
+    }
+
+    static void fails(String why) {
+        wrong++;
+        System.out.println(about + why);
+    }
+
+    /** What the next comparisons are about; it is told ahead of those that fail. */
+    static void about(String words) {
+        about = words;
+    }
+
+    static int compared() {
+        return compared;
+    }
+
+    static int wrong() {
+        return wrong;
     }
 
     /** Types a whole text, behind what is there. */

@@ -1,6 +1,13 @@
 import java.io.IOException;
+import java.lang.reflect.Field;
+import java.lang.reflect.Method;
+import java.lang.reflect.Modifier;
 import java.nio.file.Files;
 import java.nio.file.Path;
+import java.util.ArrayList;
+import java.util.HashSet;
+import java.util.List;
+import java.util.Set;
 import java.util.regex.Matcher;
 import java.util.regex.Pattern;
 
@@ -11,6 +18,9 @@ public final class LanguageTest {
         "->", "::", "Exact\\b", "\\bprotected\\b", "\\bObject\\b", "\\btoString\\b",
         "\\bhashCode\\b", "\\bstatic \\{", "\\bjava\\.", "\\bThread\\b", "\\bRandom\\b"};
     private static final int MOST_LINES_OF_A_METHOD = 60;
+    private static final int MOST_PARAMETERS = 7;
+    private static final int MOST_CLASSES = 12;
+    private static final int MOST_FIELDS = 20;
 
     public static void main(String[] args) throws IOException {
         String source = Files.readString(Path.of("src/main/java/BallotPapers.java"));
@@ -27,6 +37,7 @@ public final class LanguageTest {
         }
         objectsAreMadeInConstructors(code);
         methodsAreShort(code);
+        membersAreFew();
         Due.end();
     }
 
@@ -45,9 +56,33 @@ public final class LanguageTest {
         }
     }
 
+    private static void membersAreFew() {
+        List<Class<?>> classes = new ArrayList<>(List.of(BallotPapers.class));
+        classes.addAll(List.of(BallotPapers.class.getDeclaredClasses()));
+        Due.is("classes are too many", classes.size() > MOST_CLASSES ? 1 : 0, 0);
+        Set<String> names = new HashSet<>();
+        for (Method method : BallotPapers.class.getMethods()) {
+            names.add(method.getName());
+        }
+        for (Class<?> one : classes) {
+            int fields = 0;
+            for (Field field : one.getDeclaredFields()) {
+                fields += Modifier.isStatic(field.getModifiers()) ? 0 : 1;
+            }
+            Due.is("fields are too many: " + one, fields > MOST_FIELDS ? 1 : 0, 0);
+            for (Method method : one.getDeclaredMethods()) {
+                Due.is("parameters are too many: " + method,
+                        method.getParameterCount() > MOST_PARAMETERS ? 1 : 0, 0);
+                boolean face = Modifier.isPublic(method.getModifiers());
+                Due.is("bears the name of a public one: " + method,
+                        !face && names.contains(method.getName()) ? 1 : 0, 0);
+            }
+        }
+    }
+
     private static void methodsAreShort(String code) {
-        Matcher method = Pattern.compile("(?ms)^( {4}(?: {4})?)\\S[^;={}]*\\([^;={}]*\\) \\{$.*?^\\1\\}$")
-                .matcher(code);
+        String pattern = "(?ms)^( {4}(?: {4})?)\\S[^;={}]*\\([^;={}]*\\) \\{$.*?^\\1\\}$";
+        Matcher method = Pattern.compile(pattern).matcher(code);
         int methods = 0;
         while (method.find()) {
             methods++;

@@ -1,7 +1,9 @@
 /** All promises: long runs of calls, each answer compared with that of a plain model. */
 public final class ManyRunsTest {
-    private static final int RUNS = 1500;
+    private static final int RUNS = 5000;
+    /** Calls that are promised; a run ends when the next step might be one too many. */
     private static final int CALLS = 512;
+    private static final int CALLS_OF_A_STEP = 50;
     private static final int[] FAR = {Integer.MIN_VALUE, Integer.MIN_VALUE + 10, -1000, 1000,
         1 << 30, Integer.MAX_VALUE - 1, Integer.MAX_VALUE};
 
@@ -14,6 +16,7 @@ public final class ManyRunsTest {
     private String call;
     private int got;
     private int want;
+    private int calls;
 
     public static void main(String[] args) {
         int[] answers = new int[5];
@@ -32,7 +35,7 @@ public final class ManyRunsTest {
         seed = run;
         x = new BallotPapers();
         model = new Model();
-        for (int i = 0; i < CALLS; i++) {
+        for (int i = 0; calls <= CALLS - CALLS_OF_A_STEP; i++) {
             // The first calls mostly build, so that there are papers to ask about.
             if (i < 40 && below(4) != 0) {
                 build();
@@ -77,6 +80,7 @@ public final class ManyRunsTest {
         for (int argument : arguments) {
             line.append(' ').append(argument);
         }
+        calls++;
         call = line.toString();
         got = answer;
         want = due;
@@ -267,9 +271,11 @@ public final class ManyRunsTest {
         if (below(8) == 0) {
             ballot.setLength(below(ballot.length()));
         }
+        calls++;
         x.clearText();
         model.clearText();
         for (int i = 0; i < ballot.length(); i++) {
+            calls++;
             x.type(ballot.charAt(i));
             model.type(ballot.charAt(i));
         }
