@@ -85,8 +85,17 @@ final class EdgesOfTyping {
             Due.is("place", x.fault(0), 0);
             Due.is("reason", x.fault(1), 1);
             Due.is("cast()", x.cast(), IMPOSSIBLE);
-            // Nothing of it stands behind what is typed next.
-            Due.typed(x, "0:");
+            // Nothing of it stands behind what is typed next, wherever that ends.
+            String text = "0:a0,a0";
+            int[] places = {0, 1, NOT_FOUND, 3, NOT_FOUND, 5, 6, 5};
+            int[] reasons = {1, 1, NOT_FOUND, 1, NOT_FOUND, 1, 1, 4};
+            for (int length = 7; length >= 0; length--) {
+                Due.written(x, text);
+                Due.written(x, text.substring(0, length));
+                Due.is("place in the first " + length, x.fault(0), places[length]);
+                Due.is("reason in the first " + length, x.fault(1), reasons[length]);
+            }
+            Due.written(x, "0:");
             Due.is("no fault", x.fault(0), NOT_FOUND);
             Due.is("cast()", x.cast(), 0);
             Due.is("votes", x.nameOf(0, 0, 1), 0);
