@@ -28,8 +28,22 @@ final class Document {
         return sections.keySet();
     }
 
+    String text(String section) {
+        return sections.getOrDefault(section, "");
+    }
+
+    /** The text of the promise of a call; nothing, if there is none. */
+    String promise(String call) {
+        for (String heading : sections.keySet()) {
+            if (heading.matches("Promise \\d+: " + call)) {
+                return text(heading);
+            }
+        }
+        return "";
+    }
+
     boolean says(String section, String words) {
-        return sections.getOrDefault(section, "").contains(words);
+        return text(section).contains(words);
     }
 
     /** What a section says beside these words and the "and" between them; nothing, if all. */
